@@ -16,8 +16,8 @@ public final class GraphPatterns {
     private static final int SPOTS = 4;
     private static final int LINKS = 4;
     private static final int PATTERNS = 2;
-    private static final int ALL_SPOTS = 8;
-    private static final int ALL_LINKS = 8;
+    private static final int SPOT_PLACES = 8;
+    private static final int LINK_PLACES = 8;
     private static final int HAND = 0;
     private static final int KEPT = 1;
     private static final int MODES = 4;
@@ -50,13 +50,13 @@ public final class GraphPatterns {
     private final int[] patternMode = new int[PATTERNS];
     private final int[] spotSet = new int[PATTERNS];
     private final int[] linkSet = new int[PATTERNS];
-    private final int[] spotLabels = new int[ALL_SPOTS];
-    private final int[] spotLeast = new int[ALL_SPOTS];
-    private final int[] spotGreatest = new int[ALL_SPOTS];
-    private final int[] linkStart = new int[ALL_LINKS];
-    private final int[] linkEnd = new int[ALL_LINKS];
-    private final int[] linkTypes = new int[ALL_LINKS];
-    private final int[] linkKind = new int[ALL_LINKS];
+    private final int[] spotLabels = new int[SPOT_PLACES];
+    private final int[] spotLeast = new int[SPOT_PLACES];
+    private final int[] spotGreatest = new int[SPOT_PLACES];
+    private final int[] linkStart = new int[LINK_PLACES];
+    private final int[] linkEnd = new int[LINK_PLACES];
+    private final int[] linkTypes = new int[LINK_PLACES];
+    private final int[] linkKind = new int[LINK_PLACES];
 
     // The search at work: which pattern it looks for, and what may be chosen.
     private int sought = HAND;
@@ -362,7 +362,7 @@ public final class GraphPatterns {
         for (int j = 0; j < LINKS; j++) {
             linkEdges[j] = 1 << (EDGES + j);
             if (has(linkSet[pattern], j)) {
-                readyLink(j);
+                prepareLink(j);
             }
         }
     }
@@ -379,7 +379,7 @@ public final class GraphPatterns {
     }
 
     /** Works out once what the link asks of every pair of nodes that is tried. */
-    private void readyLink(int j) {
+    private void prepareLink(int j) {
         int at = sought * LINKS + j;
         int edges = edgesWithTypes(linkTypes[at]);
         typedEdges[j] = edges;

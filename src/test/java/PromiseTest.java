@@ -211,6 +211,13 @@ public final class PromiseTest {
         due("6 new type", x.reach(1, 1, 1), 1);
         due("6 not the old type", x.reach(1, 6, 1), 0);
         due("6 not the old place", x.degree(0, 0), 0);
+        for (int old = 0; old < 3; old++) {
+            x.removeEdge(0);
+            x.addEdge(0, 1, what(old, 0));
+            x.removeEdge(0);
+            x.addEdge(0, 1, what((old + 1) % 3, 0));
+            due("6 no longer type " + old, x.reach(0, 1 << old, 1), 0);
+        }
     }
 
     private static void promise7Degree() {
@@ -417,6 +424,14 @@ public final class PromiseTest {
         x.begin(1);
         anySpots(x, 4);
         due("13 different nodes", x.count(), 11880);
+        for (int i = 0; i < 4; i++) {
+            for (int h = 0; h < i; h++) {
+                x.begin(3);
+                x.spot(h, 15, MIN, MAX);
+                x.spot(i, 15, MIN, MAX);
+                due("13 different nodes on the spots " + h + " and " + i, x.count(), 132);
+            }
+        }
         for (int e = 0; e < 20; e++) {
             x.addEdge(5, 5, 2);
         }
@@ -533,6 +548,13 @@ public final class PromiseTest {
         due("15 a fourth is missing", x.weigh(0), BAD);
         x.link(2, ab(0, 1), 7, 1);
         due("15 a way instead", x.weigh(0), 24);
+        for (int j = 0; j < 4; j++) {
+            x.begin(0);
+            anySpots(x, 2);
+            x.link(j, ab(0, 1), 2, 0);
+            due("15 least of link " + j + " alone", x.weigh(0), 4);
+            due("15 greatest of link " + j + " alone", x.weigh(1), 9);
+        }
     }
 
     private static void promise16Keep() {
@@ -560,6 +582,36 @@ public final class PromiseTest {
         due("16 kept follows the nodes", x.kept(), 3);
         x.begin(0);
         due("16 keep one without spots", x.keep(), 1);
+        everythingIsKept();
+    }
+
+    /** Keeps one spot, or two and a link, and lets what is at hand become another in each respect. */
+    private static void everythingIsKept() {
+        GraphPatterns x = new GraphPatterns();
+        for (int n = 0; n < 12; n++) {
+            x.addNode(n % 4, n);
+        }
+        for (int n = 0; n < 4; n++) {
+            x.addEdge(n, n + 1, n % 3);
+        }
+        for (int i = 0; i < 4; i++) {
+            x.begin(0);
+            x.spot(i, 3, 4, 9);
+            due("16 nodes 4, 5, 8 and 9 on spot " + i, x.keep(), 4);
+            x.spot(i, 15, MIN, MAX);
+            due("16 kept spot " + i, x.kept(), 4);
+            x.begin(0);
+            anySpots(x, 4);
+            x.link(i, ab(i, (i + 1) % 4), 3, 1);
+            // Types 0 and 1 are those of all edges but that of 2 to 3: 0-1, 1-2, 0-2 and 3-4.
+            due("16 way of link " + i, x.keep(), 4 * 144);
+            x.link(i, ab((i + 2) % 4, i), 1, 0);
+            due("16 kept link " + i, x.kept(), 4 * 144);
+            due("16 edge of link " + i, x.keep(), 2 * 144);
+            x.addEdge(0, 1, 0);
+            due("16 one edge more", x.kept(), 3 * 144);
+            x.removeEdge(4);
+        }
     }
 
     private static void promise17Kept() {
