@@ -387,18 +387,19 @@ public final class PatternTest {
         for (int e = 0; e < 20; e++) {
             x.addEdge(11, 11, 62).is(e);
         }
-        int[] due = {276480000, 158400000, 200931840, 115117200};
-        for (int mode = 0; mode < 4; mode++) {
+        // Twelve or fewer nodes for each of three spots, twenty or fewer edges for each of four links.
+        int[] due = {1728 * 160000, 990 * 160000, 1728 * 116280, 990 * 116280};
+        for (int mode = 3; mode >= 0; mode--) {
             x.begin(mode).isTrue();
             x.anySpots(4);
             for (int j = 0; j < 4; j++) {
                 x.edgeLink(j, 0, 0, 7);
             }
             x.count().is(due[mode]);
-            x.keep().is(due[mode]);
-            x.kept().is(due[mode]);
-            x.weighs(80, 80);
         }
+        x.keep().is(due[0]);
+        x.kept().is(due[0]);
+        x.weigh(0).is(80);
     }
 
     private static void partOfSpotsAndLinks() {
@@ -680,6 +681,44 @@ public final class PatternTest {
         }
     }
 
+    /** Each spot has nodes of its own choice, so that another end of a link shows. */
+    private static void keepBothEnds() {
+        int[][] edges = {{0, 1}, {1, 3}, {2, 2}, {3, 0}, {4, 5}, {5, 5}, {6, 4}, {0, 6}, {3, 3}, {1, 2}};
+        for (int ab = 0; ab < 16; ab++) {
+            Run x = new Run();
+            for (int n = 0; n < 7; n++) {
+                x.addNode(0, n).is(n);
+            }
+            for (int[] edge : edges) {
+                x.addEdge(edge[0], edge[1], 0);
+            }
+            for (int i = 0; i < 4; i++) {
+                x.spot(i, 1, i, i + 3).isTrue();
+            }
+            // Each spot has four nodes, so the spots without the link leave sixteen or sixty-four choices.
+            int due = 0;
+            for (int[] edge : edges) {
+                boolean fits = within(edge[0], ab % 4) && within(edge[1], ab / 4);
+                if (fits && ab % 4 == ab / 4) {
+                    due += edge[0] == edge[1] ? 64 : 0;
+                } else if (fits) {
+                    due += 16;
+                }
+            }
+            int j = ab * 7 % 4;
+            x.link(j, ab, 1, 0).isTrue();
+            x.keep().is(due);
+            for (int other = 0; other < 16; other++) {
+                x.link(j, other, 1, other % 2).isTrue();
+                x.kept().is(due);
+            }
+        }
+    }
+
+    private static boolean within(int node, int spot) {
+        return spot <= node && node <= spot + 3;
+    }
+
     /** A pattern that is kept puts the one before it away whole: no spot and no link of it is left. */
     private static void keepPutsTheOldAway() {
         Run x = Run.withNodes(3);
@@ -846,6 +885,7 @@ public final class PatternTest {
         Sentences.test("16 with its mode", PatternTest::keepEveryMode);
         Sentences.test("16 with its spots", PatternTest::keepEverySpot);
         Sentences.test("16 with its links", PatternTest::keepEveryLink);
+        Sentences.test("16 with both ends of its links", PatternTest::keepBothEnds);
         Sentences.test("16 in place of the one before", PatternTest::keepPutsTheOldAway);
         Sentences.test("16 a pattern without matches", PatternTest::keepOfNoMatch);
         Sentences.test("16 the same pattern again", PatternTest::keepTwice);

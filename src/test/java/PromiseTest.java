@@ -642,7 +642,8 @@ public final class PromiseTest {
         text.append(x.nodes()).append(' ').append(x.count()).append(' ').append(x.kept());
         text.append(' ').append(x.weigh(0)).append(' ').append(x.weigh(1));
         for (int n = 0; n < 12; n++) {
-            text.append(' ').append(x.degree(n, 0)).append(' ').append(x.degree(n, 1)).append(' ').append(x.reach(n, 5, 2));
+            text.append(' ').append(x.degree(n, 0)).append(' ').append(x.degree(n, 1));
+            text.append(' ').append(x.reach(n, 5, 2));
         }
         for (int k = 0; k < 3; k++) {
             text.append(" [").append(match(x, k)).append(']');

@@ -1,9 +1,10 @@
+import java.util.ArrayList;
 import java.util.List;
 import java.util.function.Consumer;
 
 /**
  * Promise 18: a call that is refused changes nothing. Each is made in several states, and every later answer is held
- * against those of an object on which it was not made.
+ * against those of the model, on which it was not made.
  */
 public final class RefusalTest {
     private static final int MIN = Run.MIN;
@@ -19,16 +20,19 @@ public final class RefusalTest {
     private static final class State {
         final String name;
         final Consumer<Run> calls;
-        final List<Integer> laterAnswers;
         final int callsBefore;
+        final List<List<Integer>> laterAnswers = new ArrayList<>();
 
         State(String name, Consumer<Run> calls) {
             this.name = name;
             this.calls = calls;
-            Run x = build();
-            callsBefore = x.callsMade();
-            askEverything(x);
-            laterAnswers = x.answers().subList(callsBefore, x.callsMade());
+            callsBefore = build().callsMade();
+            for (Consumer<Run> questions : QUESTIONS) {
+                Run x = build();
+                questions.accept(x);
+                List<Integer> answers = new Model().answers(x.calls());
+                laterAnswers.add(answers.subList(callsBefore, answers.size()));
+            }
         }
 
         Run build() {
@@ -38,73 +42,73 @@ public final class RefusalTest {
         }
     }
 
+    // What shows all of the one changes the other: so the questions are asked in three rounds, each of a new object.
+    private static final List<Consumer<Run>> QUESTIONS =
+        List.of(RefusalTest::askTheStore, RefusalTest::askTheNodes, RefusalTest::askThePatterns);
     private static final State NEW = new State("a new object", x -> { });
     private static final State SOME = new State("some nodes and edges", RefusalTest::someNodesAndEdges);
     private static final State ALL = new State("twelve nodes and twenty edges", RefusalTest::allNodesAndEdges);
     private static final State NO_MATCH = new State("a pattern without matches", RefusalTest::noMatch);
     private static final State[] STATES = {NEW, SOME, ALL, NO_MATCH};
 
+    /** Spots that differ in all they ask, and may all have a node of label 1 and value 0. */
+    private static void spots(Run x, int... numbers) {
+        int[] labels = {7, 6, 14, 11};
+        for (int i : numbers) {
+            x.spot(i, labels[i], i - 9, 11 - 2 * i).isTrue();
+        }
+    }
+
     /** The nodes 2 and 6 .. 11, the edges 3 and 9 .. 19, the spot 2 and the links 1 and 3 are missing. */
     private static void someNodesAndEdges(Run x) {
         for (int n = 0; n < 6; n++) {
-            x.addNode(n % 3, 4 * n - 9).is(n);
+            x.addNode(1 + n % 2, 2 * n - 6).is(n);
         }
+        int[][] edges = {{0, 1}, {1, 3}, {3, 4}, {2, 2}, {4, 5}, {5, 0}, {0, 1}, {5, 3}, {1, 1}};
         for (int e = 0; e < 9; e++) {
-            x.edge(e % 2, e % 5 == 2 ? 5 : e % 5, e % 3, e + 1).is(e);
+            x.edge(edges[e][0], edges[e][1], e % 3, e + 1).is(e);
         }
-        x.removeEdge(3).isTrue();
-        x.removeNode(2).is(0);
+        x.removeNode(2).is(1);
         x.begin(2).isTrue();
-        x.anySpots(2);
-        x.edgeLink(3, 0, 1, 6);
+        spots(x, 0, 1);
+        x.edgeLink(3, 0, 1, 7);
+        x.edgeLink(1, 0, 1, 5);
+        x.wayLink(0, 1, 0, 3);
         x.keep();
         x.begin(3).isTrue();
-        x.spot(0, 7, -9, 90).isTrue();
-        x.spot(1, 15, MIN, MAX).isTrue();
-        x.spot(3, 7, -50, 11).isTrue();
-        x.edgeLink(0, 0, 1, 7);
+        spots(x, 0, 1, 3);
+        x.edgeLink(0, 0, 1, 3);
         x.wayLink(2, 0, 3, 5);
     }
 
     private static void allNodesAndEdges(Run x) {
         for (int n = 0; n < 12; n++) {
-            x.addNode(n % 4, 6 * n - 30).is(n);
+            x.addNode(1 + n % 2, n - 6).is(n);
         }
         for (int e = 0; e < 20; e++) {
-            x.edge(e % 12, (e + (e < 12 ? 1 : 4)) % 12, e % 3, e).is(e);
+            x.edge(e % 12, (e + (e < 12 ? 1 : e % 3 + 11)) % 12, e % 3, e).is(e);
         }
         x.begin(1).isTrue();
-        x.anySpots(3);
+        spots(x, 0, 2, 3);
         x.wayLink(1, 0, 2, 3);
+        x.edgeLink(0, 2, 3, 7);
+        x.edgeLink(2, 2, 3, 6);
         x.keep();
         x.begin(2).isTrue();
-        x.anySpots(4);
+        spots(x, 0, 1, 2, 3);
         x.edgeLink(0, 0, 1, 7);
-        x.edgeLink(1, 1, 2, 7);
-        x.edgeLink(2, 2, 3, 6);
+        x.edgeLink(1, 1, 2, 6);
+        x.edgeLink(2, 2, 3, 5);
         x.wayLink(3, 0, 3, 7);
-        x.spot(3, 14, -30, 20).isTrue();
     }
 
     private static void noMatch(Run x) {
         someNodesAndEdges(x);
-        x.edgeLink(1, 0, 0, 4);
-        x.edgeLink(3, 1, 1, 2);
+        x.edgeLink(1, 0, 0, 6);
+        x.edgeLink(3, 1, 1, 6);
     }
 
-    /** Asks first, and changes the object then in every way that shows what it holds. */
-    private static void askEverything(Run x) {
-        askStore(x);
-        askPatterns(x);
-        changeNodes(x);
-        x.keep();
-        x.kept();
-        changeLinks(x);
-        removeEdges(x);
-        fill(x);
-    }
-
-    private static void askStore(Run x) {
+    private static void askTheStore(Run x) {
         x.nodes();
         for (int n = 0; n < 12; n++) {
             x.degree(n, 0);
@@ -113,9 +117,12 @@ public final class RefusalTest {
                 x.reach(n, types, 1);
             }
         }
+        askMatches(x);
+        removeEdges(x);
+        fill(x);
     }
 
-    private static void askPatterns(Run x) {
+    private static void askMatches(Run x) {
         x.count();
         x.kept();
         x.weigh(0);
@@ -124,27 +131,6 @@ public final class RefusalTest {
             for (int part = 0; part < 8; part++) {
                 x.part(k, part);
             }
-        }
-    }
-
-    /** Other labels and values let the spots of both patterns be seen. */
-    private static void changeNodes(Run x) {
-        for (int n = 0; n < 12; n++) {
-            x.setNode(n, (n + 1) % 4, 37 * n % 199 - 99);
-            x.count();
-            x.kept();
-        }
-        for (int n = 0; n < 12; n++) {
-            x.setNode(n, n / 2 % 4, n - 5);
-            x.count();
-            x.kept();
-        }
-    }
-
-    private static void changeLinks(Run x) {
-        for (int i = 0; i < 4; i++) {
-            x.link(i, 5 * i, 7, 1);
-            x.count();
         }
     }
 
@@ -167,8 +153,62 @@ public final class RefusalTest {
         for (int e = 0; e < 21; e++) {
             x.addEdge(e % 12, e % 12, e);
         }
-        x.count();
+    }
+
+    private static void askTheNodes(Run x) {
+        x.begin(0);
+        for (int label = 0; label < 4; label++) {
+            x.spot(0, 1 << label, MIN, MAX);
+            for (int k = 0; k < 12; k++) {
+                x.part(k, 0);
+            }
+        }
+        for (int value = -10; value <= 12; value++) {
+            x.spot(0, 15, value, value);
+            x.part(0, 0);
+            x.count();
+        }
+    }
+
+    /** Lets both patterns find much among three nodes, and then moves one of these through all labels and values. */
+    private static void askThePatterns(Run x) {
+        joinThreeNodes(x);
+        askMatches(x);
+        for (int value = -10; value <= 12; value++) {
+            x.setNode(0, 1, value);
+            x.count();
+            x.kept();
+        }
+        for (int label = 0; label < 4; label++) {
+            x.setNode(0, label, 0);
+            x.count();
+            x.kept();
+        }
+        x.setNode(0, 1, 0);
+        x.keep();
         x.kept();
+        for (int ab = 0; ab < 16; ab++) {
+            x.link(1, ab, 7, 0);
+            x.count();
+        }
+    }
+
+    /** Two edges of different types between any two of the nodes 0, 1 and 2; no spot may have another node. */
+    private static void joinThreeNodes(Run x) {
+        for (int e = 0; e < 20; e++) {
+            x.removeEdge(e);
+        }
+        for (int n = 0; n < 3; n++) {
+            x.addNode(1, 0);
+        }
+        for (int n = 0; n < 12; n++) {
+            x.setNode(n, n < 3 ? 1 : 3, n < 3 ? 0 : 99);
+        }
+        for (int pair = 0; pair < 9; pair++) {
+            int type = (pair % 3 + 2 * (pair / 3)) % 3;
+            x.edge(pair % 3, pair / 3, type, pair);
+            x.edge(pair % 3, pair / 3, (type + 1) % 3, 20 - pair);
+        }
     }
 
     private static void refused(String words, int due, State[] states, Call... calls) {
@@ -182,16 +222,21 @@ public final class RefusalTest {
     }
 
     private static void refusedIn(State state, Call call, int due) {
-        Run x = state.build();
-        call.on(x).is(due);
-        String refused = x.callAt(state.callsBefore);
-        askEverything(x);
-        List<Integer> answers = x.answers().subList(state.callsBefore + 1, x.callsMade());
-        for (int later = 0; later < answers.size(); later++) {
-            if (!answers.get(later).equals(state.laterAnswers.get(later))) {
-                Sentences.wrong("in the state of " + state.name + ", after " + refused + ", "
-                    + x.callAt(state.callsBefore + 1 + later) + " answered " + answers.get(later)
-                    + ", due is " + state.laterAnswers.get(later));
+        for (int q = 0; q < QUESTIONS.size(); q++) {
+            Run x = state.build();
+            call.on(x).is(due);
+            QUESTIONS.get(q).accept(x);
+            holdAgainst(state, x, state.laterAnswers.get(q));
+        }
+    }
+
+    private static void holdAgainst(State state, Run x, List<Integer> due) {
+        int first = state.callsBefore + 1;
+        for (int later = 0; later < due.size(); later++) {
+            int got = x.answers().get(first + later);
+            if (got != due.get(later)) {
+                Sentences.wrong("in the state of " + state.name + ", after " + x.calls().get(first - 1) + ", "
+                    + x.calls().get(first + later) + " answered " + got + ", due is " + due.get(later));
                 return;
             }
         }
@@ -286,10 +331,16 @@ public final class RefusalTest {
         refused("weigh: no match", BAD, in(NO_MATCH), x -> x.weigh(0), x -> x.weigh(1));
     }
 
-    /** A state in which a pattern finds nothing would show little of what it holds. */
+    /** A pattern that finds nothing would show little of what it holds. */
     private static void statesAreAsMeant() {
         for (State state : in(SOME, ALL)) {
             Run x = state.build();
+            x.count().isAbove(0);
+            x.weigh(0).isAbove(0);
+        }
+        for (State state : in(SOME, ALL, NO_MATCH)) {
+            Run x = state.build();
+            joinThreeNodes(x);
             x.count().isAbove(3);
             x.kept().isAbove(3);
         }

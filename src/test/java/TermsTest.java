@@ -47,6 +47,55 @@ public final class TermsTest {
         fullyUsed(x);
     }
 
+    private static void the512thCallThatIsTooMany() {
+        Run x = new Run();
+        for (int call = 0; call < 512; call++) {
+            x.addNode(0, 0).is(call < 12 ? call : -2);
+        }
+        x = Run.withNodes(1);
+        for (int call = 0; call < 511; call++) {
+            x.addEdge(0, 0, 0).is(call < 20 ? call : -2);
+        }
+        fullyUsed(x);
+    }
+
+    private interface Call {
+        Run.Answer on(Run x);
+    }
+
+    /** Makes the same call over and over, on an object that is full, until none is left. */
+    private static void upToThe512th(int due, Call call) {
+        Run x = Run.withNodes(12);
+        for (int e = 0; e < 20; e++) {
+            x.edge(0, 11, 2, 3).is(e);
+        }
+        x.anySpots(2);
+        x.edgeLink(0, 0, 1, 4);
+        x.keep().is(20);
+        while (x.callsMade() < 512) {
+            call.on(x).is(due);
+        }
+    }
+
+    private static void the512thCallOfEachMethod() {
+        upToThe512th(-2, x -> x.addNode(0, 0));
+        upToThe512th(1, x -> x.setNode(0, 0, 0));
+        upToThe512th(-1, x -> x.removeNode(12));
+        upToThe512th(-2, x -> x.addEdge(0, 0, 0));
+        upToThe512th(0, x -> x.removeEdge(20));
+        upToThe512th(20, x -> x.degree(11, 1));
+        upToThe512th(2048, x -> x.reach(0, 4, 3));
+        upToThe512th(4095, x -> x.nodes());
+        upToThe512th(1, x -> x.begin(3));
+        upToThe512th(1, x -> x.spot(3, 15, 0, 0));
+        upToThe512th(1, x -> x.link(3, 4, 7, 1));
+        upToThe512th(20, x -> x.count());
+        upToThe512th(19, x -> x.part(19, 4));
+        upToThe512th(3, x -> x.weigh(0));
+        upToThe512th(20, x -> x.keep());
+        upToThe512th(20, x -> x.kept());
+    }
+
     private static void fullyUsed(Run x) {
         if (x.callsMade() != 512) {
             Sentences.wrong("the test made " + x.callsMade() + " calls, not 512");
@@ -712,6 +761,8 @@ public final class TermsTest {
         Sentences.test("at most 512 calls: the 512th, of edges", TermsTest::the512thCallOfEdges);
         Sentences.test("at most 512 calls: the 512th, of patterns", TermsTest::the512thCallOfPatterns);
         Sentences.test("at most 512 calls: the 512th, after refusals", TermsTest::the512thCallAfterRefusals);
+        Sentences.test("at most 512 calls: the 512th, beyond FULL", TermsTest::the512thCallThatIsTooMany);
+        Sentences.test("at most 512 calls: the 512th, of each method", TermsTest::the512thCallOfEachMethod);
         Sentences.test("at most twelve NODES", TermsTest::twelveNodes);
         Sentences.test("nodes with numbers 0 .. 11", TermsTest::nodeNumbers);
         Sentences.test("a LABEL (0 .. 3)", TermsTest::labels);
@@ -738,7 +789,8 @@ public final class TermsTest {
         Sentences.test("value from its least to its greatest", TermsTest::valuesFromLeastToGreatest);
         Sentences.test("label in its set and value in its range", TermsTest::labelAndValueBoth);
         Sentences.test("gives every spot of the pattern a node", TermsTest::everySpotHasANode);
-        Sentences.test("an edge, from the node of its first spot to that of its second", TermsTest::anEdgeFromFirstToSecond);
+        Sentences.test("an edge, from the node of its first spot to that of its second",
+            TermsTest::anEdgeFromFirstToSecond);
         Sentences.test("an edge whose type is in its set", TermsTest::anEdgeOfTheSet);
         Sentences.test("kind 0: an edge, not a longer way", TermsTest::anEdgeIsNotALongerWay);
         Sentences.test("kind 1: no way of no edges", () -> waysOf(0, false));
@@ -749,7 +801,7 @@ public final class TermsTest {
         Sentences.test("kind 1: no way of five edges", () -> waysOf(5, false));
         Sentences.test("kind 1: all with types in its set", TermsTest::aWayWithinTheSet);
         Sentences.test("kind 1: the nodes between are free", TermsTest::aWayOverAnyNodes);
-        Sentences.test("kind 1: there must be a way, but it makes no match of its own", TermsTest::waysDoNotMakeMatches);
+        Sentences.test("kind 1: a way makes no match of its own", TermsTest::waysDoNotMakeMatches);
     }
 
     private static void modesAndMatches() {

@@ -1,16 +1,26 @@
 import java.util.ArrayList;
+import java.util.Arrays;
 import java.util.List;
+import java.util.stream.Collectors;
 
 /** Calls on one new object, each noted, so that a wrong answer is told with the calls before it. */
 final class Run {
     static final int MIN = Integer.MIN_VALUE;
     static final int MAX = Integer.MAX_VALUE;
     private static final int MOST_CALLS = 512;
-    private static final int CALLS_TOLD = 40;
 
     private final GraphPatterns object = new GraphPatterns();
-    private final List<String> calls = new ArrayList<>();
+    private final List<Call> calls = new ArrayList<>();
     private final List<Integer> answers = new ArrayList<>();
+    private int callsTold = 0;
+
+    record Call(String name, int... arguments) {
+        @Override
+        public String toString() {
+            String text = Arrays.toString(arguments);
+            return name + "(" + text.substring(1, text.length() - 1) + ")";
+        }
+    }
 
     /** What the last call answered; a boolean counts 1 or 0. */
     final class Answer {
@@ -20,10 +30,11 @@ final class Run {
             this.got = got;
         }
 
-        void is(int due) {
+        boolean is(int due) {
             if (got != due) {
                 Sentences.wrong(told() + " answered " + got + ", due is " + due);
             }
+            return got == due;
         }
 
         void isAbove(int bound) {
@@ -60,7 +71,7 @@ final class Run {
     /** Numbers beside least .. greatest and far away, among them those that a shift or a cast would bring back. */
     static int[] outside(int least, int greatest) {
         List<Integer> all = new ArrayList<>(List.of(least - 1, greatest + 1, MIN, MAX, MIN + 1, MAX - 1));
-        for (int round = 32; round <= 1 << 24; round <<= 1) {
+        for (int round : new int[] {16, 32, 64, 256, 1024, 65536, 1 << 24}) {
             all.add(least + round);
             all.add(greatest - round);
         }
@@ -76,19 +87,15 @@ final class Run {
         return answers;
     }
 
-    String callAt(int index) {
-        return calls.get(index);
+    List<Call> calls() {
+        return calls;
     }
 
     private void call(String name, int... arguments) {
         if (calls.size() == MOST_CALLS) {
             throw new IllegalStateException("a test that makes more than " + MOST_CALLS + " calls on one object");
         }
-        StringBuilder text = new StringBuilder(name).append('(');
-        for (int a = 0; a < arguments.length; a++) {
-            text.append(a == 0 ? "" : ", ").append(arguments[a]);
-        }
-        calls.add(text.append(')').toString());
+        calls.add(new Call(name, arguments));
     }
 
     private Answer answer(int got) {
@@ -100,10 +107,12 @@ final class Run {
         return answer(got ? 1 : 0);
     }
 
+    /** The calls up to the last one that have not been told yet. */
     private String told() {
-        int from = Math.max(0, calls.size() - CALLS_TOLD);
-        String gap = from == 0 ? "" : ".. " + from + " calls more .. ";
-        return gap + String.join("; ", calls.subList(from, calls.size()));
+        List<Call> news = calls.subList(callsTold, calls.size());
+        String before = callsTold == 0 ? "" : ".. ";
+        callsTold = calls.size();
+        return before + news.stream().map(Call::toString).collect(Collectors.joining("; "));
     }
 
     Answer addNode(int label, int value) {

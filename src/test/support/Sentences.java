@@ -17,7 +17,7 @@ final class Sentences {
         try {
             body.run();
         } catch (RuntimeException | StackOverflowError thrown) {
-            wrong("the test was broken off by " + thrown);
+            wrong("the test was broken off by " + thrown + " at " + thrown.getStackTrace()[0]);
         }
     }
 
@@ -27,7 +27,7 @@ final class Sentences {
     }
 
     static void end() {
-        System.out.println(seen.size() + " sentences, " + wrong + " wrong answers");
+        System.out.println("of " + seen.size() + " tests: " + wrong + " wrong answers");
         if (wrong != 0) {
             System.exit(1);
         }
