@@ -185,8 +185,14 @@ public final class RefusalTest {
             x.kept();
         }
         x.setNode(0, 1, 0);
+        // With ever fewer edges the ways become rare, too.
+        for (int e = 0; e < 16; e++) {
+            x.removeEdge(e * 7 % 18);
+            x.count();
+            x.kept();
+        }
+        joinThreeNodes(x);
         x.keep();
-        x.kept();
         for (int ab = 0; ab < 16; ab++) {
             x.link(1, ab, 7, 0);
             x.count();
