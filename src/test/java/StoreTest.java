@@ -636,6 +636,23 @@ public final class StoreTest {
         }
     }
 
+    private static void reachOverEachBranch() {
+        Run x = Run.withNodes(9);
+        x.addEdge(0, 1, 0);
+        x.addEdge(0, 4, 1);
+        x.addEdge(0, 7, 2);
+        x.addEdge(1, 2, 1);
+        x.addEdge(4, 5, 2);
+        x.addEdge(7, 8, 0);
+        x.addEdge(2, 3, 2);
+        x.addEdge(5, 6, 0);
+        x.reach(0, 7, 1).is(2 + 16 + 128);
+        x.reach(0, 7, 2).is(2 + 4 + 16 + 32 + 128 + 256);
+        x.reach(0, 7, 3).is(510);
+        x.reach(0, 3, 3).is(2 + 4 + 16);
+        x.reach(0, 6, 3).is(16 + 32 + 128);
+    }
+
     private static void reachNothing() {
         Run x = rowOfFive();
         x.reach(4, 7, 3).is(0);
@@ -752,6 +769,7 @@ public final class StoreTest {
         Sentences.test("8 ways of one to k edges", StoreTest::reachOneToK);
         Sentences.test("8 with types of a set (0 .. 7)", StoreTest::reachWithTypes);
         Sentences.test("8 itself by a way, not without one", StoreTest::reachItself);
+        Sentences.test("8 ways over each branch", StoreTest::reachOverEachBranch);
         Sentences.test("8 no way", StoreTest::reachNothing);
         Sentences.test("8 bit m for node m, all twelve", StoreTest::reachAllTwelve);
         Sentences.test("8 BAD when there is no node n", StoreTest::reachWithoutNode);

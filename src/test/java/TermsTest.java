@@ -327,6 +327,18 @@ public final class TermsTest {
         x.matchesAre("0 1 - - | - - - -", "2 1 - - | - - - -", "2 3 - - | - - - -");
     }
 
+    private static void aWayTakesAnyBranch() {
+        Run x = Run.withNodes(5);
+        x.addEdge(0, 1, 0);
+        x.addEdge(0, 2, 0);
+        x.addEdge(1, 3, 0);
+        x.addEdge(2, 4, 0);
+        x.anySpots(2);
+        x.wayLink(0, 0, 1, 7);
+        x.matchesAre("0 1 - - | - - - -", "0 2 - - | - - - -", "0 3 - - | - - - -", "0 4 - - | - - - -",
+            "1 3 - - | - - - -", "2 4 - - | - - - -");
+    }
+
     private static void aWayMayComeBack() {
         Run x = Run.withNodes(5);
         x.addEdge(0, 0, 0);
@@ -779,6 +791,7 @@ public final class TermsTest {
         Sentences.test("A SET of types, bit t for type t", TermsTest::setsOfTypes);
         Sentences.test("a WAY, the first from x", TermsTest::aWayBeginsAtItsNode);
         Sentences.test("a WAY, each next one from where the one before it goes to", TermsTest::aWayGoesOnWhereItCame);
+        Sentences.test("a WAY, over any node between", TermsTest::aWayTakesAnyBranch);
         Sentences.test("a WAY, the last one to y, perhaps x itself", TermsTest::aWayMayComeBack);
     }
 
