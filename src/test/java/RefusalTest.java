@@ -191,6 +191,8 @@ public final class RefusalTest {
             x.count();
             x.kept();
         }
+        chainThreeNodes(x);
+        askMatches(x);
         joinThreeNodes(x);
         x.keep();
         for (int ab = 0; ab < 16; ab++) {
@@ -199,8 +201,30 @@ public final class RefusalTest {
         }
     }
 
-    /** Two edges of different types between any two of the nodes 0, 1 and 2; no spot may have another node. */
+    /** Two edges of different types between any two of the nodes 0, 1 and 2. */
     private static void joinThreeNodes(Run x) {
+        threeNodes(x);
+        for (int pair = 0; pair < 9; pair++) {
+            int type = (pair % 3 + 2 * (pair / 3)) % 3;
+            x.edge(pair % 3, pair / 3, type, pair);
+            x.edge(pair % 3, pair / 3, (type + 1) % 3, 20 - pair);
+        }
+    }
+
+    /** An edge of each type from 0 to 1, from 1 to 2, and from each of the three to itself: no way goes back. */
+    private static void chainThreeNodes(Run x) {
+        threeNodes(x);
+        for (int type = 0; type < 3; type++) {
+            for (int n = 0; n < 3; n++) {
+                x.edge(n, n, type, n + type);
+            }
+            x.edge(0, 1, type, 7 + type);
+            x.edge(1, 2, type, 11 + type);
+        }
+    }
+
+    /** The nodes 0, 1 and 2, without edges; no spot may have another node. */
+    private static void threeNodes(Run x) {
         for (int e = 0; e < 20; e++) {
             x.removeEdge(e);
         }
@@ -209,11 +233,6 @@ public final class RefusalTest {
         }
         for (int n = 0; n < 12; n++) {
             x.setNode(n, n < 3 ? 1 : 3, n < 3 ? 0 : 99);
-        }
-        for (int pair = 0; pair < 9; pair++) {
-            int type = (pair % 3 + 2 * (pair / 3)) % 3;
-            x.edge(pair % 3, pair / 3, type, pair);
-            x.edge(pair % 3, pair / 3, (type + 1) % 3, 20 - pair);
         }
     }
 
@@ -349,6 +368,9 @@ public final class RefusalTest {
             joinThreeNodes(x);
             x.count().isAbove(3);
             x.kept().isAbove(3);
+            chainThreeNodes(x);
+            x.count().isAbove(0);
+            x.kept().isAbove(0);
         }
         NO_MATCH.build().count().is(0);
         ALL.build().addNode(0, 0).is(FULL);
