@@ -193,8 +193,33 @@ public final class RefusalTest {
         }
         chainThreeNodes(x);
         askMatches(x);
+        askWithFewerTypes(x);
+        askWithAnotherLink(x);
         joinThreeNodes(x);
         x.keep();
+        askWithAnotherLink(x);
+    }
+
+    /** Leaves the edges from 1 to 2 one type alone, so that ways hang on it. */
+    private static void askWithFewerTypes(Run x) {
+        for (int only = 0; only < 3; only++) {
+            for (int type = 0; type < 3; type++) {
+                if (type != only) {
+                    x.removeEdge(5 * type + 4);
+                }
+            }
+            x.count();
+            x.kept();
+            for (int type = 0; type < 3; type++) {
+                if (type != only) {
+                    x.edge(1, 2, type, 11 + type).is(5 * type + 4);
+                }
+            }
+        }
+    }
+
+    /** Moves link 1, since a way link does not show while the edges of the other links make a way of their own. */
+    private static void askWithAnotherLink(Run x) {
         for (int ab = 0; ab < 16; ab++) {
             x.link(1, ab, 7, 0);
             x.count();
